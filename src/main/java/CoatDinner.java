@@ -26,7 +26,8 @@ public final class CoatDinner {
 
     private final Town town = new Town();
     private final Town trial = new Town();
-    private final Town[] images = {new Town(), new Town()};
+    private final Town firstImage = new Town();
+    private final Town secondImage = new Town();
     private final boolean[] kept = new boolean[IMAGES];
     private final Pad pad = new Pad();
     private final Table table = new Table();
@@ -205,7 +206,7 @@ public final class CoatDinner {
         int many = 0;
         allWays.begin(town);
         for (int n = 0; n < MOST_WAYS && allWays.more; n++) {
-            if (person == ALL_WAYS || table.seatOf(person) == seat) {
+            if (person == ALL_WAYS || allWays.seatOf(person) == seat) {
                 many++;
             }
             allWays.goOn();
@@ -398,10 +399,9 @@ public final class CoatDinner {
         int wearers = 0;
         allWays.begin(town);
         for (int n = 0; n < MOST_WAYS && allWays.more; n++) {
-            if (table.sightsHold(town)) {
+            if (allWays.sightsHold()) {
                 many++;
-                int worn = allWays.dressed.wearers(coat);
-                wearers |= worn == 0 ? BY_NOBODY : worn;
+                wearers |= allWays.wearersOf(coat);
             }
             allWays.goOn();
         }
@@ -433,7 +433,7 @@ public final class CoatDinner {
         if (!within(n, IMAGES - 1)) {
             return OUTSIDE;
         }
-        images[n].become(town);
+        imageOf(n).become(town);
         kept[n] = true;
         return 1;
     }
@@ -445,7 +445,7 @@ public final class CoatDinner {
         if (!kept[n]) {
             return STATE;
         }
-        town.become(images[n]);
+        town.become(imageOf(n));
         return 1;
     }
 
@@ -474,6 +474,10 @@ public final class CoatDinner {
 
     private static boolean isCap(int v) {
         return v >= 1 && v <= MOST_CAP;
+    }
+
+    private Town imageOf(int n) {
+        return n == 0 ? firstImage : secondImage;
     }
 
     private static int mostOfTrait(int what) {
@@ -520,7 +524,7 @@ public final class CoatDinner {
         int winner = NONE;
         allWays.begin(town);
         for (int n = 0; n < MOST_WAYS && allWays.more; n++) {
-            int now = table.winner(town);
+            int now = allWays.winner();
             if (winner != NONE && winner != now) {
                 return NONE;
             }
@@ -650,11 +654,11 @@ public final class CoatDinner {
         }
 
         private boolean hasPerson(int person) {
-            return within(person, PEOPLE - 1) && (people >> person & 1) == 1;
+            return person >= 0 && person < PEOPLE && (people >> person & 1) == 1;
         }
 
         private boolean hasCoat(int coat) {
-            return within(coat, COATS - 1) && (coats >> coat & 1) == 1;
+            return coat >= 0 && coat < COATS && (coats >> coat & 1) == 1;
         }
 
         private void welcome(int person) {
@@ -713,10 +717,11 @@ public final class CoatDinner {
             return what == 1 ? mothTenths : halves;
         }
 
+        /** Who is not there wears nothing, so that only people who are there are found. */
         private int wearers(int coat) {
             int set = 0;
             for (int p = 0; p < PEOPLE; p++) {
-                if (hasPerson(p) && wears[p] == coat) {
+                if (wears[p] == coat) {
                     set |= 1 << p;
                 }
             }
@@ -735,7 +740,7 @@ public final class CoatDinner {
         }
 
         private int worthOf(int coat) {
-            if (!hasCoat(coat)) {
+            if (coat < 0 || coat >= COATS) {
                 return 0;
             }
             int capped = Math.min(stitches[coat], limit);
@@ -951,16 +956,13 @@ public final class CoatDinner {
         private final int[] seats = {NONE, NONE, NONE, NONE, NONE};
 
         private void lay(Town town) {
-            price(town);
-            sit(town);
-        }
-
-        private void price(Town town) {
             for (int c = 0; c < COATS; c++) {
                 prices[c] = town.worthOf(c);
             }
+            sit(town);
         }
 
+        /** Seats a town whose coats are worth what they were when the table was laid. */
         private void sit(Town town) {
             for (int p = 0; p < PEOPLE; p++) {
                 boolean there = town.hasPerson(p);
@@ -977,12 +979,12 @@ public final class CoatDinner {
         }
 
         private int priceOf(int coat) {
-            return within(coat, COATS - 1) ? prices[coat] : 0;
+            return coat >= 0 && coat < COATS ? prices[coat] : 0;
         }
 
         /** The seat of who is there; NONE of who is not. */
         private int seatOf(int person) {
-            return within(person, PEOPLE - 1) ? seats[person] : NONE;
+            return person >= 0 && person < PEOPLE ? seats[person] : NONE;
         }
 
         private boolean sightsHold(Town town) {
@@ -1121,7 +1123,7 @@ public final class CoatDinner {
         }
     }
 
-    /** Goes through all ways to wear, from the one in which all are naked; the table seats each. */
+    /** Goes through all ways to wear, from the one in which all are naked. */
     private static final class Ways {
         private final Table table;
         private final Town dressed = new Town();
@@ -1148,7 +1150,6 @@ public final class CoatDinner {
         private void goOn() {
             for (int p = PEOPLE - 1; p >= 0; p--) {
                 if (dressed.hasPerson(p) && changeCoat(p)) {
-                    table.sit(dressed);
                     return;
                 }
             }
@@ -1172,6 +1173,26 @@ public final class CoatDinner {
             return false;
         }
 
+        private int seatOf(int person) {
+            table.sit(dressed);
+            return table.seatOf(person);
+        }
+
+        private boolean sightsHold() {
+            table.sit(dressed);
+            return table.sightsHold(dressed);
+        }
+
+        private int winner() {
+            table.sit(dressed);
+            return table.winner(dressed);
+        }
+
+        private int wearersOf(int coat) {
+            int set = dressed.wearers(coat);
+            return set == 0 ? BY_NOBODY : set;
+        }
+
         private int countRows(Town town) {
             for (int w = 0; w < ROW_WORDS; w++) {
                 rows[w] = 0;
@@ -1192,6 +1213,7 @@ public final class CoatDinner {
         }
 
         private int rowNumber() {
+            table.sit(dressed);
             int row = 0;
             for (int p = 0; p < PEOPLE; p++) {
                 if (dressed.hasPerson(p)) {
@@ -1220,7 +1242,7 @@ public final class CoatDinner {
         /** By how many steps person sits beside other, or, if other is NOBODY, no farther than s. */
         private int fewest(Town town, int person, int other, int s) {
             moved.become(town);
-            table.price(moved);
+            table.lay(moved);
             for (int w = 0; w < WAY_WORDS; w++) {
                 known[w] = 0;
                 newest[w] = 0;
@@ -1256,11 +1278,9 @@ public final class CoatDinner {
         }
 
         private boolean anyFits(int person, int other, int s) {
-            for (int way = 0; way < MOST_WAYS; way++) {
-                if (isNewest(way)) {
-                    dress(way);
-                    table.sit(moved);
-                    if (fits(person, other, s)) {
+            for (int w = 0; w < WAY_WORDS; w++) {
+                for (int b = 0; b < 32 && newest[w] != 0; b++) {
+                    if ((newest[w] >> b & 1) == 1 && fits(32 * w + b, person, other, s)) {
                         return true;
                     }
                 }
@@ -1268,7 +1288,9 @@ public final class CoatDinner {
             return false;
         }
 
-        private boolean fits(int person, int other, int s) {
+        private boolean fits(int way, int person, int other, int s) {
+            dress(way);
+            table.sit(moved);
             int seat = table.seatOf(person);
             if (other == NOBODY) {
                 return seat <= s;
@@ -1277,23 +1299,26 @@ public final class CoatDinner {
         }
 
         private void stepFromAll() {
-            for (int way = 0; way < MOST_WAYS; way++) {
-                if (isNewest(way)) {
-                    dress(way);
-                    for (int p = 0; p < PEOPLE; p++) {
-                        stepsOf(p, way);
+            for (int w = 0; w < WAY_WORDS; w++) {
+                for (int b = 0; b < 32 && newest[w] != 0; b++) {
+                    if ((newest[w] >> b & 1) == 1) {
+                        stepFrom(32 * w + b);
                     }
                 }
             }
         }
 
-        private boolean isNewest(int way) {
-            int word = way / 32;
-            return within(word, WAY_WORDS - 1) && (newest[word] >> way % 32 & 1) == 1;
+        private void stepFrom(int way) {
+            dress(way);
+            for (int p = 0; p < PEOPLE; p++) {
+                if (moved.hasPerson(p)) {
+                    stepsOf(p, way);
+                }
+            }
         }
 
         private void stepsOf(int person, int way) {
-            if (!moved.hasPerson(person)) {
+            if (person < 0 || person >= PEOPLE) {
                 return;
             }
             int coat = moved.wears[person];
