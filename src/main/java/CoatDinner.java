@@ -1096,7 +1096,13 @@ public final class CoatDinner {
             int place = 0;
             for (int n = 0; n < MOST_SIGNS && place < pad.count; n++) {
                 int length = pad.eventLength(place);
-                why = happen(town, pad, place, length);
+                if (pad.signAt(place) == '.') {
+                    town.dine(table);
+                } else if (pad.signAt(place) == '*') {
+                    town.fast();
+                } else {
+                    why = step(town, pad, place, length);
+                }
                 if (why != 0 || length <= 0) {
                     return;
                 }
@@ -1105,21 +1111,14 @@ public final class CoatDinner {
             }
         }
 
-        private int happen(Town town, Pad pad, int place, int length) {
-            int first = pad.signAt(place);
+        /** Lending, putting on, taking off: why it can not be, or 0, and it is so then. */
+        private static int step(Town town, Pad pad, int place, int length) {
+            int person = pad.signAt(place) - 'A';
             int last = pad.signAt(place + length - 1);
             if (length == 3) {
-                return town.lend(first - 'A', pad.signAt(place + 1) - 'A', last - 'a');
+                return town.lend(person, pad.signAt(place + 1) - 'A', last - 'a');
             }
-            if (length == 2) {
-                return last == '-' ? town.takeOff(first - 'A') : town.putOn(first - 'A', last - 'a');
-            }
-            if (first == '.') {
-                town.dine(table);
-            } else if (first == '*') {
-                town.fast();
-            }
-            return 0;
+            return last == '-' ? town.takeOff(person) : town.putOn(person, last - 'a');
         }
     }
 

@@ -84,6 +84,14 @@ public final class PromisesTest {
         due("wears nothing", x.state(4, 0), NONE);
         due("has eaten nothing", x.state(4, 1), 0);
         due("owes nothing", x.state(4, 2), 0);
+        due("what is owed to others stays", x.state(0, 3), 2);
+        x.give(0, 0, 5);
+        x.give(0, 1, 2);
+        due("leave(0)", x.leave(0), 1);
+        due("person(0)", x.person(0), 2);
+        due("nothing is owed to it", x.state(0, 3), 0);
+        due("its GIFT is as at first", x.told(100), 0);
+        due("whom it is for is as at first", x.told(101), 0);
     }
 
     private static void leave() {
@@ -245,6 +253,9 @@ public final class PromisesTest {
         due("fault()", x.fault(), 59);
         x.say('a');
         due("fault()", x.fault(), NONE);
+        say(x, ".".repeat(59));
+        x.say('!');
+        due("fault() in the last place", x.fault(), 59);
     }
 
     private static void judge() {
@@ -299,6 +310,8 @@ public final class PromisesTest {
         due("C wears a", x.state(2, 0), 0);
         due("C ate", x.state(2, 1), 4);
         due("STITCHES", x.told(10), 9);
+        feast(x, ".".repeat(60), 60);
+        due("60 COURSES", x.state(2, 1), 4 + 60 + 9 * 2);
         CoatDinner y = people(1);
         y.coat(0, 1, 0);
         feast(y, "Aa...", 4);
@@ -804,6 +817,10 @@ public final class PromisesTest {
         due("of ahead, too", y.year(0, 1, 1), 2);
         due("STITCHES", y.year(0, 1, 2), 8);
         due("PERSON 0 in SEAT 1", y.year(0, 1, 0), 1);
+        y.coat(1, 30, 2);
+        feast(y, "C-CbCAb.", 4);
+        due("A owes, too", y.state(0, 2), 1);
+        due("of both", y.year(0, 1, 1), 3);
         y.leave(0);
         due("PERSON 0 is not there", y.year(9999, 99, 0), 0);
         due("no COAT", y.year(9999, 99, 2), 0);
