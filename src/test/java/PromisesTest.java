@@ -440,6 +440,9 @@ public final class PromisesTest {
         CoatDinner lent = three();
         feast(lent, "AaABa", 2);
         due("who has it lent lends it", lent.head(2, 0), 1);
+        CoatDinner back = three();
+        feast(back, "AaACaBb", 3);
+        due("or gives it back", back.head(0, 0), 1);
     }
 
     private static void ways() {
