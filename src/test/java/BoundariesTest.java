@@ -407,11 +407,13 @@ public final class BoundariesTest {
             people(3); coat(0, 1, 1); coat(1, 9, 0); coat(2, 9, 2); set(2, 2, 1)
             feast(BaCcCAcCc.) = 5
             told(10) = 0; told(20) = 9; told(30) = 8        // b is not worn; c by two, one less
+            coat(3, 9, 0); coat(4, 0, 0); told(40) = 9
             state(0, 1) = 3; state(2, 1) = 2; state(1, 1) = 1
-            feast(A-C-.) = 3; told(10) = 0
+            feast(A-C-.) = 3; told(10) = 0; told(30) = 8; told(40) = 9
             state(0, 1) = 6; state(1, 1) = 3                // a has no STITCH left
             new(); people(2); coat(0, 1, 1); feast(Ba.) = 2
             state(1, 1) = 2; at(0) = 0                      // seated by what it had ahead
+            new(); people(1); coat(0, 9, 0); feast(.) = 1; told(10) = 9; year(9999, 1, 2) = 9; feast(Aa.) = 2; told(10) = 8
             """);
         told("On a fast day each eats 1, owes nothing, no COAT is worn out.", """
             feast(*) = 1
@@ -495,6 +497,8 @@ public final class BoundariesTest {
             head(2, 0) = 1                      // B lends a
             coat(1, 0, 2); feast(Cb) = 1
             head(2, 0) = 2                      // ahead of that C takes off b
+            new(); people(3); coat(0, 9, 1); coat(1, 8, 2); feast(BaCb) = 2
+            head(0, 0) = 1                      // B lends a to A, or both take off
             """);
         told("BESIDE: the fewest STEPS by which two sit side by side (in SEATS next to each other): how many (0 to 6); NONE: "
             + "not by 6.", """
@@ -525,7 +529,9 @@ public final class BoundariesTest {
             feast(Ee) = 1
             head(4, 0) = 5; head(4, 1) = 4; head(4, 2) = 3; head(4, 3) = 2; head(4, 4) = 0     // E- AEa B- C- D-
             head(3, 0) = 3; head(3, 3) = 0          // A- B- C-
-            person(0) = STATE; leave(0) = 4; head(4, 0) = 4; head(4, 3) = 0; head(4, 4) = 0
+            leave(0) = 4; head(4, 0) = 4; head(4, 3) = 0; head(4, 4) = 0
+            new(); people(2); coat(0, 0, 0); coat(4, 5, 1); feast(Aa) = 1; head(1, 0) = 1       // Be
+            feast(Be) = 1; head(0, 0) = 1; head(1, 0) = 0
             """);
     }
 
@@ -600,6 +606,9 @@ public final class BoundariesTest {
             hired(1, 0, 0) = 99; hired(1, 0, 1) = 3; hired(1, 1, 0) = 98; hired(1, 1, 1) = 4
             hired(2, 0, 1) = 3; hired(2, 4, 1) = 3              // not e, which others wear
             state(1, 0) = 4
+            new(); people(2); coat(0, 0, 0); hired(1, 0, 1) = NONE; hired(1, 1, 1) = 0
+            coat(0, 1, 0); hired(1, 0, 1) = 0; coat(1, 2, 0); feast(AaAb) = NO
+            feast(Ab) = 1; hired(1, 0, 1) = NONE; feast(A-Aa) = 2; hired(1, 0, 1) = 1; cap(1) = 99; hired(1, 0, 1) = NONE
             """);
         told("RISES: PEOPLE whose SEAT would be nearer to the head, if CAP were v, as bits.", """
             rises(@1..99) = 0; rises(!1..99) = OUTSIDE
@@ -895,10 +904,13 @@ public final class BoundariesTest {
             image(!0..1) = OUTSIDE; image(0) = 1; restore(1) = STATE; restore(0) = 1
             people(2); coat(0, 9, 0); set(0, 2, 1); set(0, 1, 3); set(0, 0, 4); cap(8); give(1, 0, 7); give(1, 1, 1); seen(1, 0)
             feast(AaABaAa.) = 4; pad(A); image(1) = 1; told(0) = 1
-            leave(1) = 1; coat(0, 5, 0); cap(9) = 8; forget() = 1; pad(..)
+            give(0, 0, 1) = 0; give(0, 1, 2) = 0; give(1, 0, 999) = 7; give(1, 1, 0) = 1; set(0, 0, 0) = 4; set(0, 1, 0) = 3
+            feast(A-B-.) = 3; set(0, 2, 0) = 1; forget() = 1; seen(0, 0) = 1; cap(9) = 8
+            leave(1) = 1; coat(0, 5, 0); coat(4, 5, 0); person(4) = 2; pad(..)
             restore(1) = 1
             told(0) = 2; told(1) = 3; told(2) = 1; told(3) = 8; told(4) = 1
-            told(10) = 8; told(11) = 0; told(12) = 4; told(13) = 3; told(14) = 1; told(15) = 3; told(200) = 7; told(201) = 1
+            told(10) = 8; told(11) = 0; told(12) = 4; told(13) = 3; told(14) = 1; told(15) = 3
+            told(@100..101) = 0; told(200) = 7; told(201) = 1
             state(1, 0) = 0; state(1, 1) = 1; state(0, 1) = 2; state(1, 2) = 0; fit(-1) = 1; fit(0) = 2
             """);
         told("It is as it was when it was kept: 1. OUTSIDE; STATE: it was not.", """
